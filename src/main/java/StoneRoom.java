@@ -486,19 +486,19 @@ public final class StoneRoom {
         }
 
         private void pack() {
+            store(packed, 0);
+        }
+
+        private void store(long[] boards, int from) {
+            if (from < 0 || from + WORDS > boards.length) {
+                return;
+            }
             for (int word = 0; word < WORDS; word++) {
                 long bits = 0L;
                 for (int p = 32 * word; p < 32 * word + 32 && p < points; p++) {
                     bits |= (long) stones[p] << (2 * (p & 31));
                 }
-                packed[word] = bits;
-            }
-        }
-
-        private void store(long[] boards, int from) {
-            pack();
-            if (from >= 0 && from + WORDS <= boards.length) {
-                System.arraycopy(packed, 0, boards, from, WORDS);
+                boards[from + word] = bits;
             }
         }
 
@@ -534,7 +534,8 @@ public final class StoneRoom {
 
         /** The neighbour in one of four directions, or NONE. */
         private int neighbour(int point, int direction) {
-            return has(point) && direction >= 0 && direction < 4 ? beside[4 * point + direction] : NONE;
+            boolean known = point >= 0 && point < points && direction >= 0 && direction < 4;
+            return known ? beside[4 * point + direction] : NONE;
         }
 
         /** Gathers what hangs together with a point over points whose content has its bit in the mask. */
@@ -548,39 +549,33 @@ public final class StoneRoom {
             if (start < 0 || start >= points) {
                 return;
             }
-            comeTo(start, mask);
+            within[start] = gathering;
+            group[0] = start;
+            gathered = 1;
             for (int i = 0; i < gathered && i < MOST_POINTS; i++) {
                 for (int direction = 0; direction < 4; direction++) {
                     int point = beside[4 * group[i] + direction];
-                    if (point >= 0 && within[point] != gathering && rim[point] != gathering) {
-                        comeTo(point, mask);
+                    if (point < 0 || within[point] == gathering || rim[point] == gathering) {
+                        continue;
+                    }
+                    int content = stones[point];
+                    if ((mask >> content & 1) == 0) {
+                        rim[point] = gathering;
+                        rimCount[content]++;
+                        latestLiberty = content == EMPTY ? point : latestLiberty;
+                    } else if (gathered < MOST_POINTS) {
+                        within[point] = gathering;
+                        group[gathered] = point;
+                        gathered++;
                     }
                 }
             }
         }
 
-        private void comeTo(int point, int mask) {
-            int content = stones[point];
-            if ((mask >> content & 1) != 0) {
-                within[point] = gathering;
-                if (gathered < MOST_POINTS) {
-                    group[gathered] = point;
-                    gathered++;
-                }
-                return;
-            }
-            rim[point] = gathering;
-            if (content >= EMPTY && content <= WHITE) {
-                rimCount[content]++;
-            }
-            if (content == EMPTY) {
-                latestLiberty = point;
-            }
-        }
-
         private void gatherChain(int point) {
-            if (hasStone(point)) {
-                gather(point, 1 << stones[point]);
+            int content = contentOf(point);
+            if (content > EMPTY) {
+                gather(point, 1 << content);
             }
         }
 
@@ -619,8 +614,11 @@ public final class StoneRoom {
 
         /** Puts a stone on an empty point and takes what it takes; false: it is suicide. */
         private boolean put(int point, int colour) {
+            if (point < 0 || point >= points) {
+                return false;
+            }
             int other = otherColour(colour);
-            lay(point, colour);
+            stones[point] = (byte) colour;
             taken = 0;
             for (int direction = 0; direction < 4; direction++) {
                 int beyond = neighbour(point, direction);
@@ -773,20 +771,16 @@ public final class StoneRoom {
             board.store(boards, node * WORDS);
             if (has(behind)) {
                 depth[node] = depth[behind] + 1;
-                hang(node, behind);
+                int elder = lastChild[behind];
+                if (has(elder)) {
+                    nextChild[elder] = node;
+                } else {
+                    firstChild[behind] = node;
+                }
+                lastChild[behind] = node;
+                children[behind]++;
             }
             return node;
-        }
-
-        private void hang(int node, int behind) {
-            int elder = lastChild[behind];
-            if (has(elder)) {
-                nextChild[elder] = node;
-            } else {
-                firstChild[behind] = node;
-            }
-            lastChild[behind] = node;
-            children[behind]++;
         }
 
         private int nthChild(int node, int n) {
@@ -828,22 +822,19 @@ public final class StoneRoom {
             return isBarred(board, behind, otherColour(mover), koRule) ? REPEATED : LET;
         }
 
+        /** Whether ko bars the board as it was packed last. */
         private boolean isBarred(Board board, int behind, int turnBehind, int koRule) {
             if (koRule == 0) {
-                return kindOf(behind) == PLAY && isBoardAt(board, parentOf(behind));
+                return has(behind) && kind[behind] == PLAY && board.packedAs(boards, parent[behind] * WORDS);
             }
             int node = behind;
             for (int i = 0; i < MOST_NODES && has(node); i++) {
-                if (isBoardAt(board, node) && (koRule == 1 || turn[node] == turnBehind)) {
+                if (board.packedAs(boards, node * WORDS) && (koRule == 1 || turn[node] == turnBehind)) {
                     return true;
                 }
                 node = parent[node];
             }
             return false;
-        }
-
-        private boolean isBoardAt(Board board, int node) {
-            return has(node) && board.packedAs(boards, node * WORDS);
         }
 
         /** Stones that a colour took from the root to the place. */
@@ -1025,8 +1016,10 @@ public final class StoneRoom {
                 readProperty();
                 skipBlanks();
             }
-            if (fault == 0) {
-                settleNode();
+            if (fault == 0 && mover == EMPTY) {
+                settleSets();
+            } else if (fault == 0) {
+                settleMove();
             }
         }
 
@@ -1084,13 +1077,29 @@ public final class StoneRoom {
 
         private void readValue(int name, int order) {
             int opening = at;
-            int closing = closingBehind(opening);
-            if (closing >= tape.length) {
+            int from = opening + 1;
+            int upTo = closingBehind(opening);
+            if (upTo >= tape.length) {
                 fail(BAD_BYTE, tape.length);
                 return;
             }
-            at = closing + 1;
-            if (!takeValue(name, order, opening + 1, closing)) {
+            at = upTo + 1;
+            boolean good = order == 0;
+            if (name == 0) {
+                good = true;
+            } else if ((name & SETTERS) != 0) {
+                good = takeSetting(name, pointIn(from, upTo));
+            } else if ((name & MOVES) != 0) {
+                mover = name == B ? BLACK : WHITE;
+                moved = pointIn(from, upTo);
+                good = good && (moved != NONE || from == upTo);
+            } else if (name == SZ) {
+                good = good && takeSize(numberIn(from, upTo));
+            } else {
+                boolean minus = tape.byteAt(from) == '-';
+                good = good && takeKomi(numberIn(minus ? from + 1 : from, upTo), minus);
+            }
+            if (!good) {
                 fail(BAD_VALUE, opening);
             }
         }
@@ -1102,28 +1111,6 @@ public final class StoneRoom {
                 closing += tape.byteAt(closing) == '\\' ? 2 : 1;
             }
             return closing;
-        }
-
-        private boolean takeValue(int name, int order, int from, int upTo) {
-            if (name == 0) {
-                return true;
-            }
-            if ((name & SETTERS) != 0) {
-                return takeSetting(name, pointIn(from, upTo));
-            }
-            if (order > 0) {
-                return false;
-            }
-            if (name == SZ) {
-                return takeSize(numberIn(from, upTo));
-            }
-            if (name == KM) {
-                boolean minus = from < upTo && tape.byteAt(from) == '-';
-                return takeKomi(numberIn(minus ? from + 1 : from, upTo), minus);
-            }
-            mover = name == B ? BLACK : WHITE;
-            moved = pointIn(from, upTo);
-            return moved != NONE || from == upTo;
         }
 
         private boolean takeSize(int size) {
@@ -1183,19 +1170,15 @@ public final class StoneRoom {
             return row * tree.size + column;
         }
 
-        private void settleNode() {
+        private void layBoardBehind() {
             board.shape(tree.size);
             if (tree.has(behind)) {
                 board.load(tree.boards, behind * WORDS);
             }
-            if (mover == EMPTY) {
-                settleSets();
-            } else {
-                settleMove();
-            }
         }
 
         private void settleMove() {
+            layBoardBehind();
             if (moved != NONE && tree.tryPlay(board, behind, moved, mover, koRule) != LET) {
                 fail(BAD_PLAY, nodeAt);
                 return;
@@ -1204,6 +1187,7 @@ public final class StoneRoom {
         }
 
         private void settleSets() {
+            layBoardBehind();
             for (int p = 0; p < board.points; p++) {
                 int content = pairAt(settings, 0, p);
                 if (content != 0) {

@@ -2,7 +2,7 @@ import java.util.Random;
 
 /** Holds StoneRoom against the Model over many runs of calls drawn from fixed seeds (all promises). */
 public final class ModelTest {
-    private static final int RUNS = 400;
+    private static final int RUNS = 150;
     private static final String[] NAMES = {"B", "W", "AB", "AW", "AE", "SZ", "KM", "C", "XX", "BB"};
 
     private final Random random;
