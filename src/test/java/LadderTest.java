@@ -70,8 +70,10 @@ public final class LadderTest {
         // Whichever liberty white plays on (13, then 17), black takes the stone at 11 by 10 and has two; then 11 is
         // suicide for white, and behind the other black joins its stones at 11.
         ask(Check.roomOf(Check.drawn(".....", ".XO..", ".OX..", ".X...", ".....")), 12, 0, 10, NONE);
-        // Taking comes by points, and the own liberty is not tried twice: behind 6 black takes three by 1.
+        // Taking comes by points: behind 6 black takes three by 1.
         ask(Check.roomOf(Check.drawn("O..", "OXO", ".XX")), 4, 0, 6, NONE);
+        // Black takes the stone at 4 by 5, its own liberty, which is not tried twice.
+        ask(Check.roomOf(Check.drawn("XXXX", "..OO", "XOO.", ".XO.")), 0, 1, 2, 4);
     }
 
     private void mindsKo() {
