@@ -561,7 +561,9 @@ public final class StoneRoom {
                     int content = stones[point];
                     if ((mask >> content & 1) == 0) {
                         rim[point] = gathering;
-                        rimCount[content]++;
+                        if (content >= EMPTY && content <= WHITE) {
+                            rimCount[content]++;
+                        }
                         latestLiberty = content == EMPTY ? point : latestLiberty;
                     } else if (gathered < MOST_POINTS) {
                         within[point] = gathering;
