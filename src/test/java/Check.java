@@ -1,3 +1,6 @@
+import java.util.function.Supplier;
+import java.util.function.ToIntFunction;
+
 /** What the tests share: the count of checks, and the way from texts to the tape and back. */
 final class Check {
     private int asked = 0;
@@ -17,6 +20,17 @@ final class Check {
 
     void due(String call, String got, String want) {
         due(call + " (" + got + ", due is " + want + ")", got.equals(want) ? 1 : 0, 1);
+    }
+
+    /** A call that is refused, or that only asks: its answer, and that no later call shows that it was made. */
+    void leaves(String call, Supplier<StoneRoom> make, ToIntFunction<StoneRoom> made, int want) {
+        StoneRoom with = make.get();
+        due(call, made.applyAsInt(with), want);
+        due(call + " changes nothing", Shown.all(with), Shown.all(make.get()));
+    }
+
+    static int bit(boolean answer) {
+        return answer ? 1 : 0;
     }
 
     void close(String name) {
@@ -68,13 +82,18 @@ final class Check {
         return text.toString();
     }
 
+    /** A point as a value of a text. */
+    static String value(int size, int point) {
+        return "[" + (char) ('a' + point % size) + (char) ('a' + point / size) + "]";
+    }
+
     /** A root text of rows drawn with X for black and O for white. */
     static String drawn(String... rows) {
         StringBuilder black = new StringBuilder();
         StringBuilder white = new StringBuilder();
         for (int row = 0; row < rows.length; row++) {
             for (int column = 0; column < rows[row].length(); column++) {
-                String point = "[" + (char) ('a' + column) + (char) ('a' + row) + "]";
+                String point = value(rows.length, row * rows.length + column);
                 if (rows[row].charAt(column) == 'X') {
                     black.append(point);
                 } else if (rows[row].charAt(column) == 'O') {
