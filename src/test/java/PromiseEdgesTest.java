@@ -133,6 +133,24 @@ public final class PromiseEdgesTest {
         StoneRoom full = Check.roomOf("(" + ";".repeat(250) + ")");
         full.begin(3, 0);
         check.due("2: not full any more", full.play(0), 0);
+        // NODE 3 was a child of 1 in the GAME before; in the new one it is the same move, but a child of 2.
+        StoneRoom anew = begun(3, 0);
+        branch(anew, 1);
+        anew.begin(3, 0);
+        branch(anew, 2);
+        anew.to(1);
+        check.due("2: a child of the GAME before is none", anew.play(8), 0);
+        check.due("2: a new NODE", anew.count(1), 4);
+        check.due("2: its PARENT", anew.node(4, 0), 1);
+    }
+
+    /** Two plays behind the ROOT, and one behind one of these. */
+    private static void branch(StoneRoom x, int behind) {
+        x.play(0);
+        x.back(1);
+        x.play(1);
+        x.to(behind);
+        x.play(8);
     }
 
     /** Promise 3: "what it was; NONE, and nothing changes, if it is not 0, 1, 2" */

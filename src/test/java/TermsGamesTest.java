@@ -20,6 +20,7 @@ public final class TermsGamesTest {
         test.koZeroLooksOneNodeBack();
         test.koZeroLooksBehindAPlayAlone();
         test.koOneLooksFromTheRoot();
+        test.koOneLooksTheLongestWay();
         test.koOneLooksAtNoOtherBranch();
         test.koTwoLooksAtTurns();
         test.overIsBehindTwoPasses();
@@ -250,6 +251,16 @@ public final class TermsGamesTest {
         check.due("II: NODE 2 comes later", y.let(1), 0);
         y.to(0);
         check.due("II: at the ROOT itself", y.let(1), 0);
+    }
+
+    /** The longest way there is: the ROOT's BOARD, 250 NODES long. */
+    private void koOneLooksTheLongestWay() {
+        StoneRoom x = Check.roomOf("(;SZ[3]AB[aa]AW[cc];AE[aa]" + nodes(248) + ")");
+        check.due("II: NODES", x.count(0), 250);
+        x.to(249);
+        check.due("II: NODES ahead", x.node(249, 6), 249);
+        check.due("II: as at the ROOT", x.let(0), 4);
+        check.due("II: as at no NODE", x.let(1), 6);
     }
 
     private void koOneLooksAtNoOtherBranch() {

@@ -9,6 +9,7 @@ public final class TermsLaddersTest {
         test.chainsHaveOneOrTwoLiberties();
         test.oneLibertyIsOneStep();
         test.theLesserPointIsFirst();
+        test.cornersOfEverySize();
         test.theGreaterPointMayTake();
         test.aPlayThatIsNotLetIsAStep();
         test.threeLibertiesSave();
@@ -59,6 +60,21 @@ public final class TermsLaddersTest {
         ask(8, 1, 4, 5, "...", "...", "..X");
     }
 
+    /** Along each edge to its end, on every size: the last points of the largest board, too. All in one room. */
+    private void cornersOfEverySize() {
+        StoneRoom x = new StoneRoom();
+        for (int size = 9; size >= 3; size--) {
+            int last = size * size - 1;
+            int[] corners = {last, 0, last + 1 - size, size - 1};
+            int[] firsts = {last - size, 1, last + 1 - 2 * size, size - 2};
+            for (int i = 0; i < corners.length; i++) {
+                x.begin(size, 0);
+                x.play(corners[i]);
+                ask(x, corners[i], 1, 2 * (size - 1), firsts[i]);
+            }
+        }
+    }
+
     private void theGreaterPointMayTake() {
         // 0 is tried, and white goes to 5, where it has three liberties; behind 5, white's 0 is suicide.
         ask(4, 1, 4, 5, ".X..", "O.O.", "X...", "..O.");
@@ -99,6 +115,8 @@ public final class TermsLaddersTest {
     /** "no KO but 0 of II, the last move being that of the line that is read" */
     private void koZeroOfTheLine() {
         ask(8, 0, 6, NONE, "O..", "OXO", ".XX");
+        // Black takes 2 by 1; to take back by 2 makes the board of before, and 7 leaves one liberty.
+        ask(0, 1, 3, 1, "O.O", "OOX", "O..");
     }
 
     /** "at first none" */

@@ -16,6 +16,8 @@ public final class TermsLivesTest {
         test.aSharedRegionCountsForEach();
         test.chainsGoAgainAndAgain();
         test.aRegionGoesWithAChainBesideIt();
+        test.aRegionHasNeighboursByAllItsPoints();
+        test.anotherBoardLeavesNothing();
         test.oneGoesAlone();
         test.theOtherColourLivesByItsOwnRegions();
         test.theMostChains();
@@ -154,6 +156,34 @@ public final class TermsLivesTest {
         StoneRoom z = Check.roomOf(Check.drawn(".X.X.", "XXX..", ".X...", "XX...", "....."));
         lives(z, 3, 0);
         lives(z, 1, 1);
+    }
+
+    /** By whichever of its POINTS the REGION has that neighbour. */
+    private void aRegionHasNeighboursByAllItsPoints() {
+        // The eye of two points is VITAL to the chain of five; the lone stone touches one end of it, and goes.
+        StoneRoom left = Check.roomOf(Check.drawn("X..X.", ".XXXX", ".....", ".....", "....."));
+        check.due("IV: VITAL to the one", left.region(1, 1, 3), 1);
+        lives(left, 0, 0);
+        lives(left, 3, 0);
+        StoneRoom right = Check.roomOf(Check.drawn(".X..X", "XXXX.", ".....", ".....", "....."));
+        check.due("IV: VITAL to the one", right.region(1, 2, 3), 1);
+        lives(right, 4, 0);
+        lives(right, 1, 0);
+        // Without the lone stone, and with the end closed, it lives.
+        lives(Check.roomOf(Check.drawn(".X..X", "XXXXX", ".....", ".....", ".....")), 1, 1);
+    }
+
+    /** What was asked on another board does not show. */
+    private void anotherBoardLeavesNothing() {
+        StoneRoom x = Check.roomOf(Check.drawn(".X.X.", "X.X.X", ".X.X.", "X.X.X", ".X.X."));
+        lives(x, 1, 1);
+        lives(x, 23, 1);
+        check.due("IV: read", Check.read(x, Check.drawn(".X.X.", "XXXX.", ".....", ".....", ".....")), 0);
+        lives(x, 1, 1);
+        region(x, 1, 0, 0, 1, 1, 1);
+        region(x, 1, 24, 4, 17, 17, 0);
+        check.due("IV: read", Check.read(x, Check.drawn(".X.", "X.X", ".X.")), 0);
+        lives(x, 7, 1);
     }
 
     /** Of the most chains, with one stone less, one goes: the others beside its regions have two without them. */

@@ -105,6 +105,10 @@ public final class TermsScoreTest {
         check.due("V: begin", x.begin(3, 0), true);
         x.play(0);
         noneIsDead("begin()", x);
+        // To the PLACE itself is true as well: it was gone to.
+        x = marked();
+        check.due("V: to the PLACE", x.to(0), true);
+        noneIsDead("to() of the PLACE", x);
         // Nor do they come back with the PLACE.
         x = marked();
         x.on(0);
