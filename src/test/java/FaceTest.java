@@ -34,7 +34,11 @@ public final class FaceTest {
             test.statics(inner);
             test.inner(inner);
         }
-        test.words(Files.readString(Path.of(args.length > 0 ? args[0] : "src/main/java/StoneRoom.java")));
+        test.check.due("classes inside", StoneRoom.class.getDeclaredClasses().length <= 12, true);
+        String source = Files.readString(Path.of(args.length > 0 ? args[0] : "src/main/java/StoneRoom.java"));
+        test.words(source);
+        test.library(source);
+        test.lengths(source);
         test.check.close("FaceTest");
     }
 
@@ -46,15 +50,20 @@ public final class FaceTest {
         return text.append(")").toString();
     }
 
+    private static Set<String> publicNames() {
+        Set<String> names = new TreeSet<>();
+        for (String method : METHODS) {
+            names.add(method.replaceAll(".* (\\w+)\\(.*", "$1"));
+        }
+        return names;
+    }
+
     private void face() {
         check.due("NONE", StoneRoom.NONE, -1);
         int of = StoneRoom.class.getModifiers();
         check.due("the class is public and final", Modifier.isPublic(of) && Modifier.isFinal(of), true);
         Set<String> want = new TreeSet<>(Set.of(METHODS));
-        Set<String> names = new TreeSet<>();
-        for (String method : METHODS) {
-            names.add(method.replaceAll(".* (\\w+)\\(.*", "$1"));
-        }
+        Set<String> names = publicNames();
         for (Method method : StoneRoom.class.getDeclaredMethods()) {
             if (Modifier.isPrivate(method.getModifiers())) {
                 check.due("a private " + method.getName(), names.contains(method.getName()), false);
@@ -87,9 +96,12 @@ public final class FaceTest {
 
     private void inner(Class<?> type) {
         check.due("static: " + type, Modifier.isStatic(type.getModifiers()), true);
+        check.due("classes inside " + type, type.getDeclaredClasses().length, 0);
+        Set<String> names = publicNames();
         for (Method method : type.getDeclaredMethods()) {
             check.due("parameters of " + method, method.getParameterCount() <= 7, true);
             check.due("private: " + method, Modifier.isPrivate(method.getModifiers()), true);
+            check.due("bears a public one's name: " + method, names.contains(method.getName()), false);
         }
     }
 
@@ -108,5 +120,29 @@ public final class FaceTest {
             check.due("import " + matcher.group(1), matcher.group(1).equals("java.util.Arrays"), true);
         }
         check.due("imports", imports <= 1, true);
+    }
+
+    /** Calls on a name with a great letter ahead are the library's: none but these is made. */
+    private void library(String source) {
+        Set<String> fine = Set.of("Arrays.fill", "Math.max", "Math.min", "Math.abs", "Long.bitCount",
+            "System.arraycopy");
+        Matcher matcher = Pattern.compile("\\b([A-Z]\\w*\\.\\w+)\\(").matcher(source);
+        while (matcher.find()) {
+            check.due("of the library: " + matcher.group(1), fine.contains(matcher.group(1)), true);
+        }
+    }
+
+    private void lengths(String source) {
+        String[] lines = source.split("\n");
+        for (int i = 0; i < lines.length; i++) {
+            if (lines[i].matches(" {4,8}(public|private) .*\\) \\{")) {
+                String closing = lines[i].replaceAll("\\S.*", "") + "}";
+                int end = i;
+                while (end < lines.length && !lines[end].equals(closing)) {
+                    end++;
+                }
+                check.due("lines of" + lines[i] + " " + (end - i + 1), end - i < 60, true);
+            }
+        }
     }
 }
